@@ -2,7 +2,7 @@ import java.util.Random;
 
 /** Runs of many kinds of pictures and calls, wrong ones too, each answer compared with the Reference's. */
 public final class RandomRunsTest {
-    private static final int RUNS = 700;
+    private static final int RUNS = 500;
     private static final int CALLS = 500;
 
     private final Random random;
@@ -76,11 +76,13 @@ public final class RandomRunsTest {
     }
 
     private void paint() {
-        switch (random.nextInt(5)) {
+        switch (random.nextInt(7)) {
             case 0: noise(1 + random.nextInt(7), 10 + random.nextInt(80)); break;
             case 1: discs(); break;
             case 2: checks(); break;
             case 3: discs(); noise(7, 3); break;
+            case 4: thinChecks(); break;
+            case 5: comb(); break;
             default: steps(); break;
         }
     }
@@ -122,6 +124,29 @@ public final class RandomRunsTest {
         for (int y = 0; y < height; y++) {
             for (int x = y % 2; x < width; x += 2) {
                 put(x, y, 1, colour);
+            }
+        }
+    }
+
+    /** What is left of the checks touches itself often and has the longest outlines. */
+    private void thinChecks() {
+        int kept = 60 + random.nextInt(35);
+        for (int y = 0; y < height; y++) {
+            for (int x = y % 2; x < width; x += 2) {
+                if (random.nextInt(100) < kept) {
+                    put(x, y, 1, 1);
+                }
+            }
+        }
+    }
+
+    private void comb() {
+        put(0, random.nextInt(height), width, 3);
+        for (int y = 0; y < height; y++) {
+            for (int x = 0; x < width; x += 2) {
+                if (random.nextInt(30) > 0) {
+                    put(x, y, 1, 3);
+                }
             }
         }
     }

@@ -106,6 +106,7 @@ final class Reference {
 
     private Outline walk(boolean[][][] sides, int x0, int y0, int layer, int turn) {
         Outline outline = new Outline();
+        boolean[][][] all = sidesOf(layer);
         outline.layer = layer;
         int x = x0;
         int y = y0;
@@ -115,14 +116,13 @@ final class Reference {
             outline.points.add(new int[] {x, y});
             x += STEPS[d][0];
             y += STEPS[d][1];
-            d = onward(x, y, d, layer, turn);
+            d = onward(all[x][y], x, y, d, layer, turn);
         }
         measure(outline);
         return outline;
     }
 
-    private int onward(int x, int y, int d, int layer, int turn) {
-        boolean[] from = sidesOf(layer)[x][y];
+    private int onward(boolean[] from, int x, int y, int d, int layer, int turn) {
         int left = (d + 3) % 4;
         int right = (d + 1) % 4;
         if (!(from[left] && from[right])) {
