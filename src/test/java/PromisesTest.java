@@ -1,17 +1,5 @@
 /** Each promise of the document, by answers that follow from its words: ordinary inputs, edges, wrong inputs. */
-public final class PromisesTest {
-    private static final int STATE = 1;
-    private static final int INDEX = 2;
-    private static final int ARGUMENT = 3;
-    private static final int[] ODD = {Integer.MIN_VALUE, -2, -1, Integer.MAX_VALUE};
-
-    private static int wrong = 0;
-    private static String promise = "";
-
-    private interface Call {
-        int answer();
-    }
-
+public final class PromisesTest extends Due {
     public static void main(String[] args) {
         newObject();
         put();
@@ -34,40 +22,7 @@ public final class PromisesTest {
         told();
         clear();
         order();
-        System.out.println(wrong == 0 ? "all promises hold" : wrong + " answers are not as due");
-        if (wrong != 0) {
-            System.exit(1);
-        }
-    }
-
-    private static void due(String call, long got, long want) {
-        if (got != want) {
-            wrong++;
-            System.out.println(promise + ": " + call + " answered " + got + ", due is " + want);
-        }
-    }
-
-    /** The exception must be of the very class, so that none of the machine's own passes for it. */
-    private static void dueThrow(String call, Call made, int want) {
-        int got = 0;
-        try {
-            made.answer();
-        } catch (RuntimeException e) {
-            got = e.getClass() == IllegalStateException.class ? STATE
-                    : e.getClass() == IndexOutOfBoundsException.class ? INDEX
-                    : e.getClass() == IllegalArgumentException.class ? ARGUMENT : 4;
-        }
-        due(call + " throws (1 state, 2 index, 3 argument)", got, want);
-    }
-
-    private static OutlineCurves drawn(String... rows) {
-        OutlineCurves x = new OutlineCurves(rows[0].length(), rows.length);
-        for (int row = 0; row < rows.length; row++) {
-            for (int column = 0; column < rows[row].length(); column++) {
-                x.put(column, row, 1, rows[row].charAt(column) == '.' ? 0 : rows[row].charAt(column) - '0');
-            }
-        }
-        return x;
+        end();
     }
 
     /** Corners (0, 0), (8, 0), (8, 8), (16, 8), (16, 16), (0, 16): the third turns left, all others right. */
@@ -81,16 +36,13 @@ public final class PromisesTest {
     }
 
     private static OutlineCurves square() {
-        OutlineCurves x = new OutlineCurves(8, 8);
-        for (int row = 0; row < 8; row++) {
-            x.put(0, row, 8, 1);
-        }
+        OutlineCurves x = full(8, 8, 1);
         x.trace(0, 0);
         return x;
     }
 
     private static void newObject() {
-        promise = "1";
+        sentence("promise 1");
         int[][] sizes = {{1, 1, 1, 1}, {16, 16, 16, 16}, {17, 0, 16, 1}, {-3, 99, 1, 16}, {5, 9, 5, 9},
             {Integer.MIN_VALUE, Integer.MAX_VALUE, 1, 16}};
         for (int[] size : sizes) {
@@ -111,7 +63,7 @@ public final class PromisesTest {
     }
 
     private static void put() {
-        promise = "2";
+        sentence("promise 2");
         OutlineCurves x = new OutlineCurves(5, 3);
         due("put(1, 1, 2, 3)", x.put(1, 1, 2, 3), 2);
         due("put(0, 1, 4, 3)", x.put(0, 1, 4, 3), 2);
@@ -156,7 +108,7 @@ public final class PromisesTest {
     }
 
     private static void trace() {
-        promise = "3";
+        sentence("promise 3");
         OutlineCurves blank = new OutlineCurves(3, 3);
         due("trace of nothing", blank.trace(0, 0), 0);
         dueThrow("about(0, 0) of none", () -> blank.about(0, 0), INDEX);
@@ -169,10 +121,7 @@ public final class PromisesTest {
         due("trace(0, 1)", x.trace(0, 1), 3);
         due("trace(0, 2)", x.trace(0, 2), 0);
         due("trace(3, 256)", x.trace(3, 256), 0);
-        OutlineCurves all = new OutlineCurves(16, 16);
-        for (int y = 0; y < 16; y++) {
-            all.put(0, y, 16, 7);
-        }
+        OutlineCurves all = full(16, 16, 7);
         due("trace(1, 255) of all", all.trace(1, 255), 7);
         due("trace(1, 256) of all", all.trace(1, 256), 0);
         for (int odd : ODD) {
@@ -212,7 +161,7 @@ public final class PromisesTest {
     }
 
     private static void about() {
-        promise = "4";
+        sentence("promise 4");
         OutlineCurves x = drawn("11111", "1...1", "1.2.1", "1...1", "11111");
         due("trace", x.trace(0, 0), 4);
         // the hole begins at its lowest sides, behind what lies in it
@@ -258,7 +207,7 @@ public final class PromisesTest {
     }
 
     private static void point() {
-        promise = "5";
+        sentence("promise 5");
         OutlineCurves x = drawn("....", ".1..", "..1.", "....");
         x.trace(0, 0);
         int[][] dueOf = {{1, 1}, {2, 1}, {2, 2}, {3, 2}, {3, 3}, {2, 3}, {2, 2}, {1, 2}};
@@ -285,7 +234,7 @@ public final class PromisesTest {
     }
 
     private static void covered() {
-        promise = "6";
+        sentence("promise 6");
         String[] rows = {"7.1.2", ".3453", "66.61", "12345"};
         for (int turn = 0; turn < 4; turn++) {
             OutlineCurves x = drawn(rows);
@@ -314,7 +263,7 @@ public final class PromisesTest {
     }
 
     private static void piece() {
-        promise = "7";
+        sentence("promise 7");
         OutlineCurves x = drawn("11");
         x.trace(0, 0);
         due("piece(0, 0, 1, 1)", x.piece(0, 0, 1, 1), 0);
@@ -351,7 +300,7 @@ public final class PromisesTest {
     }
 
     private static void polygon() {
-        promise = "8";
+        sentence("promise 8");
         OutlineCurves one = drawn("1");
         one.trace(0, 0);
         due("polygon(0, 1)", one.polygon(0, 1), 4);
@@ -387,7 +336,7 @@ public final class PromisesTest {
     }
 
     private static void corner() {
-        promise = "9";
+        sentence("promise 9");
         OutlineCurves x = angled();
         x.polygon(0, 1);
         int[][] dueOf = {{0, 0, 0, 64, 1}, {8, 8, 0, 64, 1}, {16, 8, 8, 64, -1}, {24, 16, 8, 64, 1},
@@ -432,7 +381,7 @@ public final class PromisesTest {
     }
 
     private static void curves() {
-        promise = "10";
+        sentence("promise 10");
         OutlineCurves x = angled();
         dueThrow("curves without a polygon", () -> x.curves(0, 0), STATE);
         dueThrow("curves without a polygon, wrong otherwise too", () -> x.curves(-1, 65), STATE);
@@ -476,7 +425,7 @@ public final class PromisesTest {
     }
 
     private static void curve() {
-        promise = "11";
+        sentence("promise 11");
         OutlineCurves x = angled();
         x.polygon(0, 1);
         x.curves(64, 0);
@@ -498,7 +447,7 @@ public final class PromisesTest {
     }
 
     private static void place() {
-        promise = "12";
+        sentence("promise 12");
         OutlineCurves x = angled();
         x.polygon(0, 1);
         x.curves(65, 0);
@@ -525,7 +474,7 @@ public final class PromisesTest {
     }
 
     private static void near() {
-        promise = "13";
+        sentence("promise 13");
         OutlineCurves x = angled();
         x.polygon(0, 1);
         x.curves(65, 0);
@@ -551,7 +500,7 @@ public final class PromisesTest {
     }
 
     private static void told() {
-        promise = "14";
+        sentence("promise 14");
         OutlineCurves x = drawn("12..", "3...", "....");
         int[] before = {4, 3, 3, 0, 0, 0, 0};
         int[] traced = {4, 3, 3, 3, 0, 0, 0};
@@ -577,7 +526,7 @@ public final class PromisesTest {
     }
 
     private static void clear() {
-        promise = "15";
+        sentence("promise 15");
         OutlineCurves x = angled();
         x.polygon(0, 1);
         x.curves(0, 0);
@@ -597,7 +546,7 @@ public final class PromisesTest {
 
     /** Of several exceptions the first that the face names: state, then index, then argument. */
     private static void order() {
-        promise = "terms";
+        sentence("terms");
         OutlineCurves x = new OutlineCurves(4, 4);
         dueThrow("about(-1, 9)", () -> x.about(-1, 9), STATE);
         dueThrow("point(-1, -1, 9)", () -> x.point(-1, -1, 9), STATE);
