@@ -1,7 +1,7 @@
 import java.util.ArrayList;
 import java.util.List;
 
-/** All pictures of up to nine samples of one colour: each answer about them is compared with the Reference's. */
+/** All one-coloured pictures of some small sizes: outlines, polygons and curves are compared with the Reference's. */
 public final class SmallPicturesTest extends Due {
     private static final int[][] SIZES = {{1, 1}, {4, 1}, {1, 4}, {2, 2}, {4, 2}, {2, 4}, {3, 3}};
     private static final int[] STIFFNESS = {1, 2, 4, 8};
